@@ -632,7 +632,7 @@ public final class SoundLine {
         private final Sheet sheet;
         private int[] now = new int[PLACES];
         private int[] next = new int[PLACES];
-        /** Behind these places there is nothing; low above high: the walk got nowhere. */
+        /** The walk got to places from low to high alone; low above high: it got nowhere. */
         private int low;
         private int high;
         /** For each class where a stem may end, so that one of the endings fills the rest. */
