@@ -55,7 +55,7 @@ public final class SoundLine {
     /** A value is a cost above an entry, so that the least value is the first of the cheapest entries. */
     private static final int ENTRY_BITS = 10;
     private static final int ENTRY_MASK = (1 << ENTRY_BITS) - 1;
-    private static final int NO_VALUE = Integer.MAX_VALUE;
+    private static final int NO_VALUE = 0x7fffffff;
 
     /** Far above every cost, and still far below an overflow when a few of them are added. */
     private static final int FAR = 1 << 28;
