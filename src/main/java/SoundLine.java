@@ -494,25 +494,36 @@ public final class SoundLine {
 
     /**
      * The line and the hand. A fixed part stands at its begin, as its end above its entry; the breaks at its ends are
-     * wanted and those within are not, as long as it is there, so that no other part can reach into it.
+     * wanted and those within are not, as long as it is there, so that no other part can reach into it. The line's begin
+     * and end are no places of the hand: the break behind a part at the line's end comes with the letter behind it, if
+     * the part is still fixed then.
      */
     private static final class Sheet {
         private int length;
         private final int[] letters = new int[LINE];
-        /** One place more than there can be between letters: a break behind the line's end waits for a letter. */
-        private final int[] breaks = new int[LINE + 1];
+        private final int[] breaks = new int[LINE];
         private final int[] fixed = new int[LINE];
 
         private void copyFrom(Sheet other) {
             length = other.length;
             System.arraycopy(other.letters, 0, letters, 0, LINE);
-            System.arraycopy(other.breaks, 0, breaks, 0, LINE + 1);
+            System.arraycopy(other.breaks, 0, breaks, 0, LINE);
             System.arraycopy(other.fixed, 0, fixed, 0, LINE);
         }
 
         private void append(int letter) {
             letters[length] = letter;
+            breaks[length] = fixedEndsAt(length) ? WANTED : 0;
             length++;
+        }
+
+        private boolean fixedEndsAt(int place) {
+            for (int i = 0; i < place; i++) {
+                if (fixed[i] >> ENTRY_BITS == place) {
+                    return true;
+                }
+            }
+            return false;
         }
 
         private void clear() {
@@ -542,9 +553,15 @@ public final class SoundLine {
                 }
             }
             fixed[begin] = (end << ENTRY_BITS) + entry;
-            breaks[begin] = WANTED;
             fillRange(breaks, begin + 1, end, UNWANTED);
-            breaks[end] = WANTED;
+            wantBreak(begin);
+            wantBreak(end);
+        }
+
+        private void wantBreak(int place) {
+            if (place > 0 && place < length) {
+                breaks[place] = WANTED;
+            }
         }
 
         private void moveBreak(int place, int how) {

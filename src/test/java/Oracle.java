@@ -192,7 +192,13 @@ final class Oracle {
             return -1;
         }
         act();
+        int place = state.letters.size();
         state.letters.add(letter);
+        for (Part f : state.fixed) {
+            if (f.to == place) {
+                state.breaks[place] = 1;
+            }
+        }
         return state.letters.size();
     }
 
@@ -489,7 +495,9 @@ final class Oracle {
             state.breaks[b] = 2;
         }
         state.breaks[p.from] = 1;
-        state.breaks[p.to] = 1;
+        if (p.to < state.letters.size()) {
+            state.breaks[p.to] = 1;
+        }
     }
 
     int setBreak(int place, int how) {

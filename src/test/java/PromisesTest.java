@@ -366,12 +366,55 @@ public final class PromisesTest {
             return 0;
         });
         Check.due("no act", x.about(2), acts);
+    }
+
+    /** A part chosen at the line's end wants its break there only if it is still fixed when the next letter comes. */
+    private static void breakBehindTheLastPart() {
+        for (int place = 4; place < 8; place++) {
+            for (int how = 0; how < 3; how++) {
+                SoundLine x = deskWith("kanakana");
+                x.choose(1, 1);
+                x.setBreak(place, how);
+                boolean goes = place == 4 ? how != 1 : how != 2;
+                String told = "place " + place + ", how " + how;
+                Check.due("still fixed: " + told, x.about(4), goes ? 0 : 1);
+                x.type(1);
+                Check.due("the new place: " + told, x.setBreak(8, 0), goes ? 0 : 1);
+            }
+        }
         SoundLine y = deskWith("kana");
-        y.choose(0, 0);
+        y.choose(0, 1);
         y.setBreak(2, 0);
-        Check.due("it went", y.about(4), 0);
+        y.setBreak(2, 0);
+        y.back();
+        y.back();
         y.type(1);
-        Check.due("the break at the line's end was wanted all the same", y.setBreak(4, 0), 1);
+        Check.reads("the part came back, and its break with the letter", y, "0-4:1/0* 4-5:G");
+        Check.due("wanted", y.setBreak(4, 1), 1);
+        y.back();
+        y.back();
+        y.setBreak(3, 1);
+        y.choose(1, 0);
+        y.type(1);
+        y.type(1);
+        Check.due("the part that is fixed there now", y.setBreak(4, 2), 1);
+        Check.due("none behind a letter that is not fixed", y.setBreak(5, 0), 0);
+        y.back();
+        y.back();
+        y.free();
+        y.back();
+        Check.due("back gives the break as well", y.setBreak(4, 1), 1);
+    }
+
+    /** No break is left of a part that went, and so the line is read over the place. */
+    private static void partGoneAheadOfALetter() {
+        SoundLine x = desk();
+        Check.type(x, "ka");
+        x.choose(1, 0);
+        x.setBreak(1, 0);
+        Check.type(x, "na");
+        Check.reads("the line may be read over the place", x, "0-4:0");
+        Check.due("one part is taken", x.take(), 1);
     }
 
     private static void promise16() {
@@ -561,6 +604,8 @@ public final class PromisesTest {
         promise12();
         promises13And14();
         promise15();
+        breakBehindTheLastPart();
+        partGoneAheadOfALetter();
         promise16();
         promise17();
         promise18();
