@@ -8,15 +8,38 @@ final class Check {
 
     private static int wrong = 0;
     private static int looked = 0;
+    private static int sentences = 0;
+    private static String sentence = "";
 
     private Check() {
+    }
+
+    /** What follows holds the class against these words of the document; they are told with what is wrong. */
+    static void sentence(String words) {
+        sentences++;
+        sentence = "\"" + words + "\": ";
+    }
+
+    private static void tell(String what) {
+        wrong++;
+        System.out.println(sentence + what);
     }
 
     static void due(String what, long got, long want) {
         looked++;
         if (got != want) {
-            wrong++;
-            System.out.println(what + " answered " + got + ", due is " + want);
+            tell(what + " answered " + got + ", due is " + want);
+        }
+    }
+
+    static void due(String what, boolean got, boolean want) {
+        due(what, got ? 1 : 0, want ? 1 : 0);
+    }
+
+    static void same(String what, String got, String want) {
+        looked++;
+        if (!got.equals(want)) {
+            tell(what + " is " + got + ", due is " + want);
         }
     }
 
@@ -74,47 +97,41 @@ final class Check {
     /** The reading, as one text: begin-end:word/ending, G for a guess, * for a fixed part. */
     static String reading(SoundLine x) {
         StringBuilder told = new StringBuilder();
-        for (int i = 0; i < x.parts(); i++) {
+        int parts = x.parts();
+        for (int i = 0; i < parts; i++) {
             told.append(i == 0 ? "" : " ").append(x.part(i, 0)).append('-').append(x.part(i, 1)).append(':');
-            told.append(x.part(i, 2) == SoundLine.NONE ? "G" : Integer.toString(x.part(i, 2)));
-            told.append(x.part(i, 3) == SoundLine.NONE ? "" : "/" + x.part(i, 3));
-            told.append(x.part(i, 6) == 1 ? "*" : "");
+            told.append(entry(x.part(i, 2), x.part(i, 3))).append(x.part(i, 6) == 1 ? "*" : "");
         }
         return told.toString();
     }
 
+    private static String entry(int word, int ending) {
+        String told = word == SoundLine.NONE ? "G" : Integer.toString(word);
+        return ending == SoundLine.NONE ? told : told + "/" + ending;
+    }
+
     static void reads(String what, SoundLine x, String want) {
-        looked++;
-        String got = reading(x);
-        if (!got.equals(want)) {
-            wrong++;
-            System.out.println(what + " reads " + got + ", due is " + want);
-        }
+        same(what + ": the reading", reading(x), want);
     }
 
     /** The choices for a part, as one text: word/ending=cost. */
     static String choices(SoundLine x, int i) {
         StringBuilder told = new StringBuilder();
-        for (int k = 0; k < x.choices(i); k++) {
-            told.append(k == 0 ? "" : " ");
-            told.append(x.choice(i, k, 0) == SoundLine.NONE ? "G" : Integer.toString(x.choice(i, k, 0)));
-            told.append(x.choice(i, k, 1) == SoundLine.NONE ? "" : "/" + x.choice(i, k, 1));
+        int choices = x.choices(i);
+        for (int k = 0; k < choices; k++) {
+            told.append(k == 0 ? "" : " ").append(entry(x.choice(i, k, 0), x.choice(i, k, 1)));
             told.append('=').append(x.choice(i, k, 2));
         }
         return told.toString();
     }
 
     static void offers(String what, SoundLine x, int i, String want) {
-        looked++;
-        String got = choices(x, i);
-        if (!got.equals(want)) {
-            wrong++;
-            System.out.println(what + " offers " + got + ", due is " + want);
-        }
+        same(what + ": the choices for part " + i, choices(x, i), want);
     }
 
     static void end() {
-        System.out.println(looked + " answers looked at, " + wrong + " wrong");
+        String told = sentences == 0 ? "" : sentences + " sentences, ";
+        System.out.println(told + looked + " answers looked at, " + wrong + " wrong");
         if (wrong != 0) {
             System.exit(1);
         }

@@ -74,18 +74,22 @@ public final class LimitsTest {
         }
         Check.due("no more", x.back() ? 1 : 0, 0);
         Check.due("the first five letters can't be undone", x.typed(NONE), 5);
-        for (int i = 0; i < 200; i++) {
+    }
+
+    private static void manyActs() {
+        SoundLine x = new SoundLine();
+        for (int i = 0; i < 150; i++) {
             x.empty();
             x.type(1 + i % 26);
         }
-        Check.due("80 again", x.about(2), 80);
-        for (int i = 199; i > 159; i--) {
+        Check.due("80 are kept", x.about(2), 80);
+        for (int i = 149; i > 109; i--) {
             Check.due("letter " + i, x.typed(0), 1 + i % 26);
             x.back();
             Check.due("empty " + i, x.typed(NONE), 0);
             x.back();
         }
-        Check.due("the letter ahead of them", x.typed(0), 1 + 159 % 26);
+        Check.due("the letter ahead of them", x.typed(0), 1 + 109 % 26);
         Check.due("none left", x.about(2), 0);
     }
 
@@ -166,6 +170,7 @@ public final class LimitsTest {
         fullBook();
         longestPart();
         acts();
+        manyActs();
         takenLines();
         dearestBook();
         manyCalls();

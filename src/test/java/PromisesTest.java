@@ -5,25 +5,6 @@ public final class PromisesTest {
     private PromisesTest() {
     }
 
-    /** Sounds 0 "ka", 1 "na", 2 "kan" (price 3), 3 "a"; words 0 ka-na and 1, the stem kan; ending 0 "a". */
-    private static SoundLine desk() {
-        SoundLine x = new SoundLine();
-        x.spelling(0, Check.letters("ka"), 0);
-        x.spelling(1, Check.letters("na"), 0);
-        x.spelling(2, Check.letters("kan"), 3);
-        x.spelling(3, Check.letters("a"), 0);
-        x.word(Check.sounds(0, 1), 5, 0, NONE);
-        x.word(Check.sounds(2), 7, 1, 2);
-        x.ending(Check.sounds(3), 9, 2, 5);
-        return x;
-    }
-
-    private static SoundLine deskWith(String line) {
-        SoundLine x = desk();
-        Check.type(x, line);
-        return x;
-    }
-
     private static void promise1() {
         Check.due("NONE", SoundLine.NONE, -1);
         SoundLine x = new SoundLine();
@@ -108,7 +89,7 @@ public final class PromisesTest {
     }
 
     private static void promise5() {
-        SoundLine x = deskWith("kama");
+        SoundLine x = Desks.kanaWith("kama");
         Check.due("with a slip", x.cost(), 130);
         Check.due("SLIP is 200", x.price(0, 200), 30);
         Check.due("guesses are dearer still", x.cost(), 280);
@@ -127,7 +108,7 @@ public final class PromisesTest {
     }
 
     private static void promise6() {
-        SoundLine x = deskWith("kanakana");
+        SoundLine x = Desks.kanaWith("kanakana");
         Check.due("no steps' prices", x.cost(), 200);
         Check.due("0 to 0 is 90", x.step(0, 0, 90), 0);
         Check.due("another way is cheaper", x.cost(), 208);
@@ -172,7 +153,7 @@ public final class PromisesTest {
     }
 
     private static void promises9And10() {
-        SoundLine x = deskWith("kana");
+        SoundLine x = Desks.kanaWith("kana");
         Check.due("cost", x.cost(), 100);
         Check.due("parts", x.parts(), 1);
         x.setBreak(1, 2);
@@ -185,7 +166,7 @@ public final class PromisesTest {
         Check.due("it has no parts", x.parts(), 0);
         Check.due("and no signs", x.sign(NONE), 0);
         Check.missing("and no choices", () -> x.choices(0));
-        SoundLine y = desk();
+        SoundLine y = Desks.made(Desks::kana);
         y.price(2, 0);
         Check.type(y, "kana");
         y.take();
@@ -254,7 +235,7 @@ public final class PromisesTest {
     }
 
     private static void promise11() {
-        SoundLine x = deskWith("kanaz");
+        SoundLine x = Desks.kanaWith("kanaz");
         Check.due("begin", x.part(0, 0), 0);
         Check.due("end", x.part(0, 1), 4);
         Check.due("word", x.part(0, 2), 0);
@@ -284,7 +265,7 @@ public final class PromisesTest {
     }
 
     private static void promise12() {
-        SoundLine x = desk();
+        SoundLine x = Desks.made(Desks::kana);
         x.spelling(9, Check.letters("ppp"), 0);
         x.word(Check.sounds(9), Check.row(14, 16383, 2, 3, 4), 0, 2);
         Check.type(x, "pppazkana");
@@ -301,7 +282,7 @@ public final class PromisesTest {
     }
 
     private static void promises13And14() {
-        SoundLine x = deskWith("kanaz");
+        SoundLine x = Desks.kanaWith("kanaz");
         Check.offers("the word", x, 0, "0=170 1/0=178");
         Check.offers("the guess", x, 1, "G=170");
         x.step(1, 8, 50);
@@ -330,7 +311,7 @@ public final class PromisesTest {
     }
 
     private static void promise15() {
-        SoundLine x = deskWith("kanakana");
+        SoundLine x = Desks.kanaWith("kanakana");
         x.choose(0, 1);
         Check.reads("chosen", x, "0-4:1/0* 4-8:0");
         Check.due("fixed parts", x.about(4), 1);
@@ -372,7 +353,7 @@ public final class PromisesTest {
     private static void breakBehindTheLastPart() {
         for (int place = 4; place < 8; place++) {
             for (int how = 0; how < 3; how++) {
-                SoundLine x = deskWith("kanakana");
+                SoundLine x = Desks.kanaWith("kanakana");
                 x.choose(1, 1);
                 x.setBreak(place, how);
                 boolean goes = place == 4 ? how != 1 : how != 2;
@@ -382,7 +363,7 @@ public final class PromisesTest {
                 Check.due("the new place: " + told, x.setBreak(8, 0), goes ? 0 : 1);
             }
         }
-        SoundLine y = deskWith("kana");
+        SoundLine y = Desks.kanaWith("kana");
         y.choose(0, 1);
         y.setBreak(2, 0);
         y.setBreak(2, 0);
@@ -408,7 +389,7 @@ public final class PromisesTest {
 
     /** No break is left of a part that went, and so the line is read over the place. */
     private static void partGoneAheadOfALetter() {
-        SoundLine x = desk();
+        SoundLine x = Desks.made(Desks::kana);
         Check.type(x, "ka");
         x.choose(1, 0);
         x.setBreak(1, 0);
@@ -418,7 +399,7 @@ public final class PromisesTest {
     }
 
     private static void promise16() {
-        SoundLine x = deskWith("kanakana");
+        SoundLine x = Desks.kanaWith("kanakana");
         Check.due("free at first", x.setBreak(3, 1), 0);
         Check.reads("a break", x, "0-3:1 3-4:G 4-8:0");
         Check.due("wanted", x.setBreak(3, 2), 1);
@@ -426,13 +407,13 @@ public final class PromisesTest {
         Check.due("free", x.setBreak(3, 0), 0);
         Check.due("each an act", x.about(2), 12);
         for (int how = 0; how < 3; how++) {
-            SoundLine y = deskWith("kanakanakana");
+            SoundLine y = Desks.kanaWith("kanakanakana");
             y.choose(0, 0);
             y.choose(1, 0);
             y.choose(2, 0);
             y.setBreak(6, how);
             Check.due("over it: how " + how, y.about(4), how == 2 ? 3 : 2);
-            SoundLine z = deskWith("kanakanakana");
+            SoundLine z = Desks.kanaWith("kanakanakana");
             z.choose(0, 0);
             z.choose(1, 0);
             z.choose(2, 0);
@@ -446,12 +427,12 @@ public final class PromisesTest {
         Check.illegal("place -1", () -> x.setBreak(-1, 0));
         Check.illegal("how -1", () -> x.setBreak(1, -1));
         Check.illegal("how 3", () -> x.setBreak(1, 3));
-        Check.illegal("no place in one letter", () -> deskWith("a").setBreak(1, 0));
+        Check.illegal("no place in one letter", () -> Desks.kanaWith("a").setBreak(1, 0));
         Check.due("no act", x.about(2), 12);
     }
 
     private static void promise17() {
-        SoundLine x = deskWith("kanakana");
+        SoundLine x = Desks.kanaWith("kanakana");
         x.choose(0, 1);
         x.choose(1, 1);
         x.setBreak(6, 2);
@@ -469,7 +450,7 @@ public final class PromisesTest {
     }
 
     private static void promise18() {
-        SoundLine x = deskWith("kana");
+        SoundLine x = Desks.kanaWith("kana");
         x.choose(0, 1);
         Check.due("empty", x.empty(), 4);
         Check.due("no letters", x.typed(NONE), 0);
@@ -483,7 +464,7 @@ public final class PromisesTest {
     }
 
     private static void promise19() {
-        SoundLine x = deskWith("kana");
+        SoundLine x = Desks.kanaWith("kana");
         x.choose(0, 1);
         x.setBreak(2, 1);
         x.free();
@@ -516,7 +497,7 @@ public final class PromisesTest {
     }
 
     private static void promises20To23() {
-        SoundLine x = deskWith("kanakanaz");
+        SoundLine x = Desks.kanaWith("kanakanaz");
         x.choose(1, 1);
         Check.reads("the line", x, "0-4:0 4-8:1/0* 8-9:G");
         Check.due("taken", x.take(), 3);
@@ -565,7 +546,7 @@ public final class PromisesTest {
 
     /** A pair that was learnt makes its step cheaper, and unlearnt dearer again. */
     private static void pairsAreWorth() {
-        SoundLine x = deskWith("kanaz");
+        SoundLine x = Desks.kanaWith("kanaz");
         x.take();
         Check.type(x, "kanaz");
         Check.due("8 for the count, 2 for the pair", x.cost(), 160);
@@ -577,7 +558,7 @@ public final class PromisesTest {
     }
 
     private static void promise24() {
-        SoundLine x = deskWith("kanakana");
+        SoundLine x = Desks.kanaWith("kanakana");
         x.take();
         Check.type(x, "kana");
         x.choose(0, 0);
