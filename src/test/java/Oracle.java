@@ -4,9 +4,9 @@ import java.util.NoSuchElementException;
 
 /**
  * The document's words as directly as they can be put: every parting of the line is made and looked at. Far too slow for
- * long lines; it is what SoundLine's answers are held against on short ones.
+ * long lines; it is what SoundLine's answers are held against on short ones. LongOracle is for the long ones.
  */
-final class Oracle {
+class Oracle {
     static final class Part {
         final int from;
         final int to;
@@ -65,6 +65,8 @@ final class Oracle {
     private List<Part> reading;
     private List<List<Part>> all;
     private boolean known;
+    /** How often the book has changed what a part costs or how it is spelt. */
+    int bookChanges;
 
     Oracle() {
         for (int i = 0; i < 50; i++) {
@@ -120,7 +122,7 @@ final class Oracle {
         if (spellings.get(sound).size() == 3) {
             return -1;
         }
-        known = false;
+        bookChanged();
         spellings.get(sound).add(row);
         spellingPrices.get(sound).add(price);
         return spellings.get(sound).size();
@@ -134,7 +136,7 @@ final class Oracle {
         if (wordSounds.size() == 60) {
             return -1;
         }
-        known = false;
+        bookChanged();
         wordSounds.add(s);
         wordSigns.add(g);
         wordKinds.add(kind);
@@ -151,7 +153,7 @@ final class Oracle {
         if (endingSounds.size() == 8) {
             return -1;
         }
-        known = false;
+        bookChanged();
         endingSounds.add(s);
         endingSigns.add(sign);
         endingClasses.add(itsClass);
@@ -162,7 +164,7 @@ final class Oracle {
     int price(int what, int v) {
         range(what, 0, 2);
         range(v, 0, 200);
-        known = false;
+        bookChanged();
         int was = prices[what];
         prices[what] = v;
         return was;
@@ -176,6 +178,11 @@ final class Oracle {
         int was = steps[a][b];
         steps[a][b] = v;
         return was;
+    }
+
+    private void bookChanged() {
+        known = false;
+        bookChanges++;
     }
 
     private void act() {
@@ -212,7 +219,12 @@ final class Oracle {
 
     // ---- the reading
 
-    private int spellCost(int[] sounds, int i, int at, int to) {
+    /** The least price of spelling these sounds by the letters of a stretch; -1: they can't be. */
+    int spellCost(int[] sounds, int from, int to) {
+        return spellRest(sounds, 0, from, to);
+    }
+
+    private int spellRest(int[] sounds, int i, int at, int to) {
         if (i == sounds.length) {
             return at == to ? 0 : -1;
         }
@@ -223,11 +235,8 @@ final class Oracle {
             if (at + row.length > to) {
                 continue;
             }
-            int slips = 0;
-            for (int j = 0; j < row.length; j++) {
-                slips += row[j] == state.letters.get(at + j) ? 0 : 1;
-            }
-            int rest = slips > 1 ? -1 : spellCost(sounds, i + 1, at + row.length, to);
+            int slips = slips(row, at);
+            int rest = slips > 1 ? -1 : spellRest(sounds, i + 1, at + row.length, to);
             if (rest >= 0) {
                 int cost = rest + spellingPrices.get(sound).get(s) + slips * prices[0];
                 least = least < 0 || cost < least ? cost : least;
@@ -236,7 +245,16 @@ final class Oracle {
         return least;
     }
 
-    private int[] soundsOf(Part p) {
+    /** How many letters of the line from a place on are not those of a spelling. */
+    int slips(int[] row, int at) {
+        int slips = 0;
+        for (int j = 0; j < row.length; j++) {
+            slips += row[j] == state.letters.get(at + j) ? 0 : 1;
+        }
+        return slips;
+    }
+
+    int[] soundsOf(Part p) {
         int[] stem = wordSounds.get(p.word);
         if (p.ending < 0) {
             return stem;
@@ -252,19 +270,24 @@ final class Oracle {
     }
 
     private boolean spelt(Part p) {
-        return p.word < 0 ? p.to == p.from + 1 : spellCost(soundsOf(p), 0, p.from, p.to) >= 0;
+        return p.word < 0 ? p.to == p.from + 1 : spellCost(soundsOf(p), p.from, p.to) >= 0;
     }
 
     private int partCost(Part p) {
-        if (p.word < 0) {
-            return prices[1];
-        }
-        int own = p.ending < 0 ? 0 : endingPrices.get(p.ending);
-        return prices[2] - 8 * bits(counts.get(p.word)) + own + spellCost(soundsOf(p), 0, p.from, p.to);
+        return p.word < 0 ? prices[1] : costBesideSpelling(p) + spellCost(soundsOf(p), p.from, p.to);
     }
 
-    private int kind(Part p) {
+    int costBesideSpelling(Part p) {
+        int own = p.ending < 0 ? 0 : endingPrices.get(p.ending);
+        return prices[2] - 8 * bits(counts.get(p.word)) + own;
+    }
+
+    int kind(Part p) {
         return p.word < 0 ? 8 : wordKinds.get(p.word);
+    }
+
+    int stepCost(int a, int b) {
+        return steps[a][b] - 2 * bits(pairsOf[a][b]);
     }
 
     private int partingCost(List<Part> parting) {
@@ -272,19 +295,21 @@ final class Oracle {
         for (int i = 0; i < parting.size(); i++) {
             cost += partCost(parting.get(i));
             if (i > 0) {
-                int a = kind(parting.get(i - 1));
-                int b = kind(parting.get(i));
-                cost += steps[a][b] - 2 * bits(pairsOf[a][b]);
+                cost += stepCost(kind(parting.get(i - 1)), kind(parting.get(i)));
             }
         }
         return cost;
+    }
+
+    boolean goesWith(int word, int ending) {
+        return ending < 0 || endingClasses.get(ending).intValue() == wordClasses.get(word).intValue();
     }
 
     private List<Part> partsOver(int from, int to) {
         List<Part> found = new ArrayList<>();
         for (int w = 0; w < wordSounds.size(); w++) {
             for (int e = -1; e < endingSounds.size(); e++) {
-                if (e < 0 || endingClasses.get(e).intValue() == wordClasses.get(w).intValue()) {
+                if (goesWith(w, e)) {
                     Part p = new Part(from, to, w, e);
                     if (spelt(p)) {
                         found.add(p);
@@ -351,30 +376,35 @@ final class Oracle {
         }
     }
 
+    /** Which of two parts from one place is the first one in the document's order. */
+    static int compare(Part p, Part q) {
+        int pw = p.word < 0 ? 1000 : p.word;
+        int qw = q.word < 0 ? 1000 : q.word;
+        if (pw != qw) {
+            return pw - qw;
+        }
+        return p.ending != q.ending ? p.ending - q.ending : p.to - q.to;
+    }
+
     private static int compare(List<Part> a, List<Part> b) {
         for (int i = 0; i < a.size() && i < b.size(); i++) {
-            Part p = a.get(i);
-            Part q = b.get(i);
-            int pw = p.word < 0 ? 1000 : p.word;
-            int qw = q.word < 0 ? 1000 : q.word;
-            if (pw != qw) {
-                return pw - qw;
-            }
-            if (p.ending != q.ending) {
-                return p.ending - q.ending;
-            }
-            if (p.to != q.to) {
-                return p.to - q.to;
+            int order = compare(a.get(i), b.get(i));
+            if (order != 0) {
+                return order;
             }
         }
         return 0;
     }
 
     private void read() {
-        if (known) {
-            return;
+        if (!known) {
+            known = true;
+            reading = findReading();
         }
-        known = true;
+    }
+
+    /** The reading; null: no parting is allowed. */
+    List<Part> findReading() {
         int n = state.letters.size();
         Part[][][] table = new Part[n + 1][n + 1][];
         for (int a = 0; a < n; a++) {
@@ -384,18 +414,31 @@ final class Oracle {
         }
         all = new ArrayList<>();
         makeAll(0, new ArrayList<>(), table);
-        reading = null;
+        List<Part> first = null;
         int least = 0;
         for (List<Part> parting : all) {
             if (!hasFixed(parting, null)) {
                 continue;
             }
             int cost = partingCost(parting);
-            if (reading == null || cost < least || cost == least && compare(parting, reading) < 0) {
-                reading = parting;
+            if (first == null || cost < least || cost == least && compare(parting, first) < 0) {
+                first = parting;
                 least = cost;
             }
         }
+        return first;
+    }
+
+    /** The least cost of all partings that have a part and are allowed but for fixed parts over it; null: there is none. */
+    Integer leastWith(Part p) {
+        Integer least = null;
+        for (List<Part> parting : all) {
+            if (has(parting, p) && hasFixed(parting, p)) {
+                int cost = partingCost(parting);
+                least = least == null ? cost : Math.min(least, cost);
+            }
+        }
+        return least;
     }
 
     int partings() {
@@ -455,16 +498,8 @@ final class Oracle {
         Part at = reading.get(i);
         List<int[]> found = new ArrayList<>();
         for (Part p : partsOver(at.from, at.to)) {
-            boolean any = false;
-            int least = 0;
-            for (List<Part> parting : all) {
-                if (has(parting, p) && hasFixed(parting, p)) {
-                    int cost = partingCost(parting);
-                    least = any ? Math.min(least, cost) : cost;
-                    any = true;
-                }
-            }
-            if (any) {
+            Integer least = leastWith(p);
+            if (least != null) {
                 found.add(new int[] {p.word, p.ending, least});
             }
         }
